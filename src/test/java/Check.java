@@ -16,6 +16,14 @@ final class Check {
         }
     }
 
+    /** A limit of the test itself: it is told when it is broken, and counts as no answer otherwise. */
+    void atMost(String what, long got, long most) {
+        if (got > most) {
+            wrong++;
+            System.out.println(topic + ": " + what + " are " + got + ", at most " + most + " may be");
+        }
+    }
+
     void holds(String claim, boolean truth) {
         due(claim, truth ? 1 : 0, 1);
     }

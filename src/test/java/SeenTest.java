@@ -32,13 +32,16 @@ public final class SeenTest {
         afterRemove();
         afterBackUpOntoTheHeldCartridge();
         afterBackUpOntoAnotherCartridge();
+        afterBackUpPastACartridgeWithRoom();
         afterBackUpThatFails();
         afterTidy();
         afterAsk();
         afterServeInItsOrder();
+        afterServeOfSome();
         afterServeWithoutRoom();
         afterServeOfWhatIsNoStub();
         afterEmptyOfFullCartridges();
+        afterEmptyOfOneAfterTheOther();
         afterEmptyOntoTwoCartridges();
         afterEmptyOfDeadCopies();
         afterEmptyThatFails();
@@ -163,6 +166,15 @@ public final class SeenTest {
             r.create(1, 3, DONE);
         }), new Picture().doubled(0, 0, 0, 1, 2).doubled(2, 0, 5, 20, 0, 0).resident(1, 0, 0, 0)
             .ends(8, 0, 0, 0).drive(0, 8, 28));
+        seen("2 create of a file that was RESIDENT before", fresh(12, 10).then(r -> {
+            r.create(7, 4, DONE);
+            r.write(7, 0, 1, DONE);
+            r.write(7, 1, 2, DONE);
+            r.write(7, 2, 3, DONE);
+            r.write(7, 3, 4, DONE);
+            r.remove(7, DONE);
+            r.create(7, 4, DONE);
+        }), new Picture().resident(7, 0, 0, 0, 0));
         seen("2 create of a file that was LOST and waited before", oneIsLost().then(r -> {
             r.remove(0, DONE);
             r.create(0, 2, DONE);
@@ -308,6 +320,27 @@ public final class SeenTest {
             .ends(10, 6, 0, 0).drive(1, 6, 56));
     }
 
+    private static void afterBackUpPastACartridgeWithRoom() {
+        seen("6 backUp looks at the held cartridge first", threeDoubles().then(r -> {
+            r.write(1, 0, 6, DONE);
+            r.backUp(1);
+            r.write(0, 0, 5, DONE);
+            r.backUp(0);
+        }), new Picture().doubled(2, 0, 5, 20, 0, 0).doubled(1, 1, 0, 6, 0, 13).doubled(0, 1, 3, 5, 2)
+            .ends(8, 5, 0, 0).drive(1, 5, 53));
+        seen("6 backUp fills the held cartridge first", threeDoubles().then(r -> {
+            r.write(1, 0, 6, DONE);
+            r.backUp(1);
+            r.write(2, 2, 7, DONE);
+            r.backUp(2);
+            r.write(0, 0, 5, DONE);
+            r.backUp(0);
+            r.write(0, 1, 6, DONE);
+            r.backUp(0);
+        }), new Picture().doubled(1, 1, 0, 6, 0, 13).doubled(2, 1, 3, 20, 0, 7).doubled(0, 1, 8, 5, 6)
+            .ends(8, 10, 0, 0).drive(1, 10, 58));
+    }
+
     private static void afterBackUpThatFails() {
         seen("6 backUp is FULL", fullCartridges().then(r -> r.backUp(FULL)), fullCartridgesSeen());
         seen("6 backUp is REFUSED", threeDoubles().then(r -> r.backUp(Run.REFUSED)), threeDoublesSeen());
@@ -363,6 +396,23 @@ public final class SeenTest {
         }), new Picture().stub(0, 0, 0, 1, 0, 0).doubled(1, 0, 3, 2, 0, 0).ends(6, 0, 0, 0).drive(0, 6, 38));
     }
 
+    private static void afterServeOfSome() {
+        Opening served = threeDoubles().then(r -> {
+            r.tidy(0, 0, 3);
+            r.asks(2, 1);
+            r.serve(2);
+        });
+        seen("9 serve leaves a STUB that does not wait", served,
+            new Picture().stub(0, 0, 0, 1, 2).doubled(1, 0, 2, 0, 0, 13).doubled(2, 0, 5, 20, 0, 0)
+                .ends(8, 0, 0, 0).drive(0, 8, 40));
+        seen("9 serve of one that was served before", served.then(r -> {
+            r.tidy(0, 0, 2);
+            r.ask(1, DONE);
+            r.serve(1);
+        }), new Picture().stub(0, 0, 0, 1, 2).stub(2, 0, 5, 20, 0, 0).doubled(1, 0, 2, 0, 0, 13)
+            .ends(8, 0, 0, 0).drive(0, 5, 49));
+    }
+
     private static void afterServeWithoutRoom() {
         seen("9 serve goes on after one without room", littleRoom().then(r -> {
             r.tidy(0, 0, 1);
@@ -393,6 +443,14 @@ public final class SeenTest {
         seen("10 empty of the one that the drive holds", twoCartridges().then(r -> r.empty(1, 2)),
             new Picture().doubled(0, 0, 0, 0, 0, 3).doubled(1, 0, 3, -10, 0).doubled(2, 2, 0, 0, 0, 0, 23)
                 .doubled(3, 2, 4, 30).ends(5, 0, 5, 0).drive(2, 5, 133));
+    }
+
+    private static void afterEmptyOfOneAfterTheOther() {
+        seen("10 empty onto the one that was emptied before", twoCartridges().then(r -> {
+            r.empty(0, 2);
+            r.empty(1, 2);
+        }), new Picture().doubled(0, 2, 0, 0, 0, 3).doubled(1, 2, 3, -10, 0).doubled(2, 0, 0, 0, 0, 0, 23)
+            .doubled(3, 0, 4, 30).ends(5, 0, 5, 0).drive(0, 5, 244));
     }
 
     private static void afterEmptyOntoTwoCartridges() {
